@@ -1,4 +1,4 @@
-// A node of a coin network. "Promise" and the words in capitals are those of the document, DOC.md.
+// A node of a coin network. The words in capitals are those of the document, DOC.md.
 public final class CoinNode {
     public static final int BAD = -1, REFUSED = -2, LATE = -3, CHEAP = -4, FULL = -5;
 
@@ -10,7 +10,9 @@ public final class CoinNode {
     private static final int REWARD = 64, HALVING = 4, REWARD_DEPTH = 2;
     private static final int HASH_FACTOR = 31, HASH_TERM = 7, HASH_DIVISOR = 1009;
     // The draft stands in the place of the next transaction, so there is one place more.
-    private static final int PLACES = TRANSACTIONS + 1;
+    private static final int PLACES = TRANSACTIONS + 1, PART_PLACES = PLACES * PARTS;
+    private static final int TOKEN_PLACES = SCRIPTS * TOKENS, BLOCK_PLACES = BLOCKS * BLOCK_TRANSACTIONS;
+    private static final int QUEUE = TRANSACTIONS + POOL;
 
     private static final int PUSH = 0, DUP = 1, DROP = 2, SWAP = 3, ADD = 4, MULTIPLY = 5, EQUAL = 6;
     private static final int LESS = 7, VERIFY = 8, HASH = 9, AGE = 10, HEIGHT = 11, SKIP = 12;
@@ -19,20 +21,20 @@ public final class CoinNode {
     private static final int MADE = 0, WAITING = 1, INVALID = 2, VALID = 3, ACTIVE = 4;
 
     private final int[] tokenCount = new int[SCRIPTS];
-    private final int[] tokenOp = new int[SCRIPTS * TOKENS];
-    private final int[] tokenValue = new int[SCRIPTS * TOKENS];
+    private final int[] tokenOp = new int[TOKEN_PLACES];
+    private final int[] tokenValue = new int[TOKEN_PLACES];
     private final boolean[] scriptInUse = new boolean[SCRIPTS];
     private final int[] stack = new int[STACK];
     private int stackSize = 0;
 
     private int transactions = 0;
     private final int[] inputCount = new int[PLACES];
-    private final int[] inputCoin = new int[PLACES * PARTS];
-    private final int[] inputA = new int[PLACES * PARTS];
-    private final int[] inputB = new int[PLACES * PARTS];
+    private final int[] inputCoin = new int[PART_PLACES];
+    private final int[] inputA = new int[PART_PLACES];
+    private final int[] inputB = new int[PART_PLACES];
     private final int[] outputCount = new int[PLACES];
-    private final int[] outputAmount = new int[PLACES * PARTS];
-    private final int[] outputScript = new int[PLACES * PARTS];
+    private final int[] outputAmount = new int[PART_PLACES];
+    private final int[] outputScript = new int[PART_PLACES];
     private final int[] feeOf = new int[TRANSACTIONS];
 
     private int putCount = 0;
@@ -46,7 +48,7 @@ public final class CoinNode {
     private final int[] rewardAmount = new int[BLOCKS];
     private final int[] rewardScript = new int[BLOCKS];
     private final int[] blockSize = new int[BLOCKS];
-    private final int[] blockTransaction = new int[BLOCKS * BLOCK_TRANSACTIONS];
+    private final int[] blockTransaction = new int[BLOCK_PLACES];
 
     // What is in the chain that was laid out last: between calls this is the tip's.
     private final int[] laidBlock = new int[BLOCKS];
@@ -59,7 +61,7 @@ public final class CoinNode {
     private final int[] poolRow = new int[POOL];
     private final boolean[] marked = new boolean[POOL];
     private int queueCount = 0;
-    private final int[] queue = new int[TRANSACTIONS + POOL];
+    private final int[] queue = new int[QUEUE];
 
     public CoinNode() {
         addBlock(0, 0, 1, 0);
@@ -262,8 +264,8 @@ public final class CoinNode {
         return false;
     }
 
-    // All its coins are there before the draft is made, so the fee never changes afterwards.
-    // In blocks that can't be valid rewards may grow until this wraps; no answer shows those.
+    // All its coins are there before the draft is made, so the FEE never changes afterwards.
+    // In blocks that can't be VALID rewards may grow until this wraps; no answer shows those.
     private int feeOfDraft() {
         int sum = 0;
         int first = transactions * PARTS;
@@ -348,7 +350,7 @@ public final class CoinNode {
         for (int i = t * PARTS; i < t * PARTS + inputCount[t]; i++) {
             int c = inputCoin[i];
             int from = coinHeight[c];
-            // A reward's number by PARTS is no transaction's, so it is never in the pool.
+            // A reward's number divided by PARTS is above every transaction's: no pool has it.
             if (fromPool && isInPool(c / PARTS)) from = height;
             if (from < 0 || coinSpent[c]) return false;
             if (c >= FIRST_REWARD && height - from < REWARD_DEPTH) return false;
@@ -415,7 +417,7 @@ public final class CoinNode {
         poolCount = kept;
     }
 
-    // Those that stay active are queued as well: admit refuses them.
+    // Those that stay ACTIVE are queued as well: admit refuses them.
     private void queueForPool() {
         queueCount = 0;
         for (int h = 0; h <= heightOf[tip]; h++) {

@@ -173,6 +173,11 @@ public final class ChainTest {
         Due.is("one block behind", x.block(Steps.mined(x, 2, 1, u), 0), INVALID);
         Due.is("two blocks behind", x.block(Steps.mined(x, 2, 1, t), 0), ACTIVE);
         Due.is("two blocks behind, the coin of 2", x.block(Steps.mined(x, 4, 1, u), 0), ACTIVE);
+        CoinNode z = new CoinNode();
+        int w = Steps.spend(z, 120, 1);
+        Due.is("the reward of block 0, one block behind", z.block(Steps.mined(z, 0, 1, w), 0), INVALID);
+        int one = Steps.grow(z, 0);
+        Due.is("the reward of block 0, two blocks behind", z.block(Steps.mined(z, one, 1, w), 0), ACTIVE);
         CoinNode y = Steps.nodeOfHeight(3);
         int other = Steps.grow(y, 0);
         int v = Steps.spend(y, 120 + other, 1);

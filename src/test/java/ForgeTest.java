@@ -39,13 +39,12 @@ public final class ForgeTest {
 
     private static void greatestFeesFirst() {
         CoinNode x = Steps.nodeOfHeight(7);
-        int[] amounts = {60, 50, 63, 40, 62, 55};
+        int[] amounts = {60, 50, 63, 40, 30, 29};
         int[] t = new int[6];
-        for (int i = 0; i < 3; i++) t[i] = Steps.spend(x, 120 + i, amounts[i]);
-        t[3] = Steps.spend(x, 123, amounts[3]);
-        t[4] = Steps.spend(x, 124, 30);
-        t[5] = Steps.spend(x, 125, 29);
-        for (int i = 0; i < 6; i++) Due.is("offer", x.offer(t[i]), i + 1);
+        for (int i = 0; i < 6; i++) {
+            t[i] = Steps.spend(x, 120 + i, amounts[i]);
+            Due.is("offer", x.offer(t[i]), i + 1);
+        }
         int b = x.forge(1, 0);
         int[] due = {8, 8, -1, 8, -1, 8};
         for (int i = 0; i < 6; i++) Due.is("at " + i, x.at(t[i]), due[i]);

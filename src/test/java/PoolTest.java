@@ -59,6 +59,11 @@ public final class PoolTest {
         x.output(1, 0);
         Due.is("one coin of two is not ACTIVE", x.offer(x.make()), CoinNode.LATE);
         Due.is("the reward of the tip is old enough behind another", x.offer(young), 3);
+        CoinNode y = new CoinNode();
+        int zero = Steps.spend(y, 120, 1);
+        Due.is("the reward of block 0, being the tip", y.offer(zero), CoinNode.LATE);
+        Steps.grow(y, 0);
+        Due.is("the reward of block 0", y.offer(zero), 1);
     }
 
     private static void lateFeesAndScripts() {
