@@ -1,10 +1,5 @@
 // The Terms' SCRIPTS: what each token does, when a script FAILS and when it FITS.
-public final class ScriptTest {
-    private static final int PUSH = 0, DUP = 1, DROP = 2, SWAP = 3, ADD = 4, MULTIPLY = 5, EQUAL = 6;
-    private static final int LESS = 7, VERIFY = 8, HASH = 9, AGE = 10, HEIGHT = 11, SKIP = 12;
-    private static final int LEAST = Integer.MIN_VALUE, MOST = Integer.MAX_VALUE;
-    private static final boolean YES = true, NO = false;
-
+public final class ScriptTest extends ScriptRuns {
     public static void main(String[] args) {
         stackAtFirst();
         pushDupDropSwap();
@@ -16,25 +11,6 @@ public final class ScriptTest {
         skip();
         coinsOfTheSameBlock();
         Due.end();
-    }
-
-    // A coin of height 1 under script 1 is spent in a block of height 4, by way of the pool and of a block.
-    private static void fits(boolean due, int a, int b, int... tokens) {
-        CoinNode x = new CoinNode();
-        StringBuilder name = new StringBuilder(a + " " + b + ":");
-        for (int i = 0; i < tokens.length; i += 2) {
-            Due.is("a token", x.token(1, tokens[i], tokens[i + 1]), i / 2 + 1);
-            name.append(" (").append(tokens[i]).append(", ").append(tokens[i + 1]).append(")");
-        }
-        x.deliver(x.mine(0, 1, 1));
-        Steps.grow(x, 1);
-        Steps.grow(x, 2);
-        x.input(121, a, b);
-        x.output(64, 0);
-        x.make();
-        Due.is(name + " in the pool", x.offer(0), due ? 1 : CoinNode.LATE);
-        int block = Steps.mined(x, 3, 1, 0);
-        Due.is(name + " in a block", x.block(block, 0), due ? 4 : 2);
     }
 
     private static void stackAtFirst() {

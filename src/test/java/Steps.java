@@ -24,6 +24,13 @@ final class Steps {
         return node.make();
     }
 
+    // A transaction of these inputs, with ints 1 and 1, and outputs of these amounts under script 0.
+    static int join(CoinNode node, int[] coins, int... amounts) {
+        for (int coin : coins) node.input(coin, 1, 1);
+        for (int amount : amounts) node.output(amount, 0);
+        return node.make();
+    }
+
     // A block of these transactions on the parent, delivered.
     static int mined(CoinNode node, int parent, int work, int... transactions) {
         for (int t : transactions) node.put(t);
