@@ -382,8 +382,9 @@ public final class ChainEdgesTest {
     }
 
     private static void questionsAboutBlocks() {
-        CoinNode x = new CoinNode();
         for (int last = 0; last < 32; last++) {
+            CoinNode x = new CoinNode();
+            for (int h = 0; h < last; h++) Steps.mined(x, h, 2);
             for (int b : new int[] {LEAST, -1, 0, last, last + 1, 32, MOST}) {
                 for (int what : new int[] {LEAST, -1, 0, 1, 2, 3, 4, MOST}) {
                     boolean there = b >= 0 && b <= last && what >= 0 && what <= 3;
@@ -394,7 +395,6 @@ public final class ChainEdgesTest {
             for (int h : new int[] {LEAST, -1, 0, last, last + 1, 32, MOST}) {
                 Due.is("active(" + h + ")", x.active(h), h >= 0 && h <= last ? h : -1);
             }
-            Steps.mined(x, last, 2);
         }
     }
 
